@@ -375,6 +375,15 @@ public final class PromisesTest {
         }
         due(14, "the most there can be", y.barrel(0, -1, 0), 6000);
         due(14, "the last of them", y.barrel(0, 5999, 0), 291);
+        QuayBrands z = new QuayBrands();
+        for (int size = 9; size > 6; size--) {
+            z.land(0, 0, 0, 800, size);
+        }
+        for (int i = 0; i < 3; i++) {
+            due(14, "a landing for a barrel, parts of " + i, z.barrel(0, i, 6), 1);
+            due(14, "its size", z.barrel(0, i, 5), 9 - i);
+            due(14, "beyond the last", z.barrel(0, 3, 0), UNKNOWN);
+        }
     }
 
     private static void promise15() {
@@ -648,6 +657,33 @@ public final class PromisesTest {
         due(26, "what -1", x.account(0, 0, -1), OUTSIDE);
     }
 
+    /** Barrels of one hour that differ in nothing but what the act asks for. */
+    private static void likeBarrels() {
+        QuayBrands x = withAct("A:h<1", 0);
+        x.rule(1, 100);
+        x.set(0, 0, 9);
+        x.set(0, 1, 2000);
+        x.land(0, 0, 0, 18050, 5);
+        x.land(1, 0, 1, 150, 5);
+        due(26, "all but one", x.account(0, 0, 4), 181);
+        due(26, "of all", x.account(0, 0, 3), 182);
+        due(15, "the same filled again", x.filled(0, 0, 2000, 0), 181 * 90 / 100);
+        QuayBrands y = withAct("A:z>4", 0);
+        y.rule(1, 100);
+        y.land(0, 0, 0, 150, 5);
+        y.land(1, 0, 0, 150, 3);
+        due(26, "one of three", y.account(0, 0, 4), 1);
+        y.land(2, 1, 0, 150, 3);
+        y.land(2, 1, 0, 150, 5);
+        due(26, "the last of three", y.account(1, 0, 4), 1);
+        QuayBrands z = withAct("A:s=50", 0);
+        z.rule(1, 500);
+        z.land(0, 0, 0, 1500, 1);
+        z.salt(0, 1, 3, 9);
+        z.salt(0, 2, 3, 50);
+        due(26, "salt by hours", z.account(0, 0, 4), 2);
+    }
+
     private static QuayBrands threeThatWait() {
         QuayBrands x = new QuayBrands();
         x.rule(0, 1);
@@ -830,6 +866,7 @@ public final class PromisesTest {
         promise24();
         promise25();
         promise26();
+        likeBarrels();
         promise27();
         promise28();
         promise29();
