@@ -150,10 +150,11 @@ public final class QuayBrands {
         if (!isLanding(landing) || !isQuayOrNone(quay)) {
             return UNKNOWN;
         }
-        if (quay == NO_QUAY && landings.waiting() >= MOST_WAITING) {
+        int was = landings.quays[landing];
+        // One that waits already has its place among those that wait, and may keep it.
+        if (quay == NO_QUAY && was != NO_QUAY && landings.waiting() >= MOST_WAITING) {
             return NO;
         }
-        int was = landings.quays[landing];
         landings.quays[landing] = quay;
         return was;
     }

@@ -253,10 +253,11 @@ public final class ModelTest {
             if (!in(n, 0, landings.size() - 1) || !in(quay, -1, 3)) {
                 return UNKNOWN;
             }
-            if (quay == -1 && waiting() == 5) {
+            int was = landings.get(n)[1];
+            int others = waiting() - (was == -1 ? 1 : 0);
+            if (quay == -1 && others == 5) {
                 return NO;
             }
-            int was = landings.get(n)[1];
             landings.get(n)[1] = quay;
             return was;
         }

@@ -277,7 +277,11 @@ public final class PromisesTest {
         refused(11, x, "landing -1", () -> x.lead(-1, 0), UNKNOWN);
         refused(11, x, "quay 4", () -> x.lead(0, 4), UNKNOWN);
         refused(11, x, "quay -2", () -> x.lead(0, -2), UNKNOWN);
-        refused(11, x, "five wait already", () -> x.lead(0, -1), NO);
+        for (int i = 0; i < 5; i++) {
+            due(11, "one of the five waits on " + i, x.lead(i, -1), -1);
+        }
+        due(11, "still five wait", x.told(3), 5);
+        refused(11, x, "a sixth that waits, still", () -> x.lead(5, -1), NO);
         due(11, "to a quay", x.lead(0, 3), -1);
         due(11, "to wait", x.lead(5, -1), 1);
         due(11, "its quay", x.landing(0, 1), 3);
@@ -285,6 +289,8 @@ public final class PromisesTest {
         due(11, "to the same", x.lead(0, 3), 3);
         due(11, "waits", x.landing(5, 1), -1);
         due(11, "how many wait", x.told(3), 5);
+        due(11, "one that came to wait waits on", x.lead(5, -1), -1);
+        refused(11, x, "one that went to a quay, back", () -> x.lead(0, -1), NO);
     }
 
     private static void promise12() {
