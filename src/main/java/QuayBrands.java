@@ -9,6 +9,8 @@ public final class QuayBrands {
 
     private static final int QUAYS = 4, BOATS = 10, SHIPS = 4, GRADES = 6, PRICED_GRADES = 2;
     private static final int LAST_HOUR = 2000, LAST_DAY = 400, HOURS_OF_DAY = 24, PINED_AFTER = 240;
+    // Barrels are done in hours beyond 2000 too, as long as their fish are not stale.
+    private static final int BEHIND_ALL_HOURS = 3000;
     private static final int NO_QUAY = -1, MOST_WAITING = 5, MOST_LANDINGS = 30;
     private static final int MOST_SIGNS = 60, MOST_ACTS = 8, MOST_SALTS = 12, MOST_JUDGED = 24, MOST_PRICES = 60;
     private static final int CAUSES = 30, MOST_CAUSES = 3, MOST_OPENED = 30, MOST_BORNE = 20;
@@ -542,7 +544,7 @@ public final class QuayBrands {
     }
 
     private int brandedAt(int quay) {
-        return countBranded(quay, NONE, Integer.MAX_VALUE);
+        return countBranded(quay, NONE, BEHIND_ALL_HOURS);
     }
 
     private int wagesAt(int quay) {

@@ -648,11 +648,14 @@ public final class ModelTest {
         int[] widths = {10, 40, 120, 2000};
         int wrong = 0;
         int looked = 0;
-        for (int run = 0; run < 160; run++) {
+        for (int run = 0; run < 1000; run++) {
             QuayBrands x = new QuayBrands();
             Model m = new Model();
-            for (int call = 0; call < 250 && wrong < 20; call++) {
+            int calls = 0;
+            // An object is used for 512 calls at most; a step makes two, or says a text of 35 signs.
+            for (int call = 0; calls < 470 && wrong < 20; call++) {
                 int kind = upTo(35);
+                calls += kind > 31 ? 37 : 2;
                 int[] pair = step(x, m, kind, widths[run % 4]);
                 looked++;
                 if (pair[0] != pair[1]) {

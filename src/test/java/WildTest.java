@@ -22,26 +22,38 @@ public final class WildTest {
         return upTo(10) < wildness ? ODD[upTo(ODD.length)] : upTo(6);
     }
 
+    private static void sayAll(QuayBrands x, String text) {
+        for (int i = 0; i < text.length(); i++) {
+            x.say(text.charAt(i));
+        }
+    }
+
+    /** Takes some 430 of the 512 calls. */
     private static QuayBrands fullest() {
         QuayBrands x = new QuayBrands();
         x.rule(1, 100);
         x.set(0, 0, 9);
         x.set(0, 1, 2000);
         for (int a = 0; a < 8; a++) {
-            String text = "F:h<3,z>4;A:h<5,t>0;B:s<50;C:q=1;D:z=2;E:h<9999,h<9999,q<8888";
-            for (int i = 0; i < text.length(); i++) {
-                x.say(text.charAt(i));
-            }
+            sayAll(x, a < 7 ? "F:h<3;A:t>0" : "F:h<3,z>4;A:h<5,t>0;B:s<50;C:q=1;D:z=2;E:h<9999,h<9,q<8888");
             x.act(a);
         }
+        sayAll(x, "A".repeat(60));
         for (int i = 0; i < 60; i++) {
-            x.say(65);
             x.free(i, 1000, i % 3);
             x.price(i % 2, i, 1000, i % 3);
-            x.salt(i % 4, i, 1, 1);
-            x.judge(i % 3, i % 10, i % 7, true);
+        }
+        for (int i = 0; i < 30; i++) {
             x.land(i % 10, i % 6 == 5 ? -1 : 0, i, 20000, 9);
-            x.engage(i % 10, 0, 50, 1000);
+        }
+        for (int i = 0; i < 24; i++) {
+            x.judge(i % 3, i % 10, i % 7, true);
+        }
+        for (int i = 0; i < 12; i++) {
+            x.salt(i % 4, i, 1, 1);
+        }
+        for (int i = 0; i < 10; i++) {
+            x.engage(i, 0, 50, 1000);
             x.ship(i % 4, 400, 20);
         }
         return x;
@@ -81,9 +93,10 @@ public final class WildTest {
         Method[] face = Arrays.stream(all).filter(m -> java.lang.reflect.Modifier.isPublic(m.getModifiers()))
             .sorted(Comparator.comparing(Method::getName)).toArray(Method[]::new);
         int calls = 0;
-        for (int run = 0; run < 200 && wrong < 20; run++) {
-            QuayBrands x = run % 2 == 0 ? fullest() : new QuayBrands();
-            for (int c = 0; c < 512; c++) {
+        for (int run = 0; run < 600 && wrong < 20; run++) {
+            boolean full = run % 3 != 0;
+            QuayBrands x = full ? fullest() : new QuayBrands();
+            for (int c = full ? 430 : 0; c < 512; c++) {
                 call(x, face[upTo(face.length)], run % 10);
                 calls++;
             }
